@@ -313,14 +313,13 @@ public final class VillageBoard {
         int beggingTokens;
         int buildings;
 
+        /** The start of the first round sets what changes with each round. */
         void begin(int food) {
             for (int good = 0; good < GOODS; good++) {
                 goods[good] = 0;
             }
             goods[FOOD] = food;
             family = FIRST_FAMILY;
-            newcomers = 0;
-            freeWorkers = 0;
             rooms = FIRST_ROOMS;
             beggingTokens = 0;
             buildings = 0;
@@ -513,7 +512,7 @@ public final class VillageBoard {
 
     /** The whole state that undo restores, and the rules of rounds and placements. */
     private static final class Game {
-        int playerCount = MIN_PLAYERS;
+        int playerCount;
         int rounds;
         int round;
         int inTurn;

@@ -25,6 +25,7 @@ public final class GameTest {
         reason();
         placeTakesAndGives();
         placeWithBuildings();
+        placeUpToTheLimits();
         placeEndsRounds();
         placeThrows();
         skip();
@@ -196,6 +197,40 @@ public final class GameTest {
             place(9, 5) = 1; goods(0, 1) = 0; player(0, 5) = 160; place(4, 0) = 0; place(0, 0) = 1; goods(0, 0) = 6;
             place(4, 0) = 0; goods(0, 4) = 1; player(0, 4) = 2;
             place(6, 0) = 1; goods(0, 0) = 2; goods(0, 1) = 0; player(0, 3) = 3""");
+    }
+
+    private static void placeUpToTheLimits() {
+        Script.run("4 five rooms, and a family of five", """
+            newGame(2, 12) = 0;
+            place(0, 0) = 1; place(4, 0) = 0; place(1, 0) = 1; place(4, 0) = 0;
+            place(0, 0) = 1; place(4, 0) = 0; place(6, 0) = 1; place(4, 0) = 0; player(0, 3) = 3; goods(0, 0) = 2;
+            place(0, 0) = 1; place(4, 0) = 0; place(6, 0) = 1; place(4, 0) = 0; player(0, 3) = 4; goods(0, 1) = 0;
+            place(0, 0) = 1; place(4, 0) = 0; place(1, 0) = 1; place(4, 0) = 0; goods(0, 1) = 6; player(0, 4) = 6;
+            place(6, 0) = 1; place(4, 0) = 0; place(0, 0) = 1; place(4, 0) = 0; player(0, 3) = 5; score(0, 1) = 5;
+            # round 6: wood and clay for a room, but no place for it
+            place(0, 0) = 1; place(4, 0) = 0; goods(0, 0) = 6; goods(0, 1) = 5; reason(6, 0) = 5;
+            place(6, 0) = throws IllegalStateException; place(9, 4) = 1; place(4, 0) = 0; player(0, 4) = 10;
+            place(7, 0) = 1; place(4, 0) = 0; place(0, 0) = 1; place(4, 0) = 0; player(0, 0) = 3; player(0, 2) = 3;
+            place(7, 0) = 1; place(4, 0) = 0; place(0, 0) = 1; place(4, 0) = 0; need(0) = 7; place(5, 0) = 0;
+            # round 9: four of eight sheep gave 8 food for 7, and one was born
+            goods(0, 3) = 5; goods(0, 4) = 1; player(0, 4) = 10; player(0, 2) = 4;
+            place(7, 0) = 1; place(4, 0) = 0; place(0, 0) = 1; place(4, 0) = 0; place(2, 0) = 0; place(10, 0) = 0;
+            # round 10: five members, six beds
+            round() = 10; player(0, 0) = 5; player(0, 2) = 5; score(0, 0) = 15; reason(7, 0) = 5; need(0) = 10""");
+        Script.run("4 all eight buildings", """
+            newGame(2, 12) = 0;
+            place(0, 0) = 1; place(4, 0) = 0; place(1, 0) = 1; place(4, 0) = 0;
+            place(0, 0) = 1; place(4, 0) = 0; place(1, 0) = 1; place(4, 0) = 0;
+            place(0, 0) = 1; place(4, 0) = 0; place(1, 0) = 1; place(4, 0) = 0; goods(0, 0) = 9; goods(0, 1) = 6;
+            place(9, 0) = 1; score(0, 4) = 2; place(4, 0) = 0; place(1, 0) = 1; place(4, 0) = 0; goods(0, 1) = 5;
+            place(9, 1) = 1; score(0, 4) = 4; place(4, 0) = 0; place(9, 2) = 1; score(0, 4) = 5;
+            reason(9, 6) = 2; reason(9, 8) = 2; place(4, 0) = 0; goods(0, 0) = 5; goods(0, 1) = 4;
+            place(9, 3) = 1; score(0, 4) = 6; place(4, 0) = 0; place(9, 4) = 1; score(0, 4) = 7; place(4, 0) = 0;
+            goods(0, 0) = 1; goods(0, 1) = 3;
+            place(9, 5) = 1; score(0, 4) = 9; place(4, 0) = 0; place(9, 6) = 1; score(0, 4) = 10; place(4, 0) = 0;
+            goods(0, 0) = 0; goods(0, 1) = 1; player(0, 5) = 127;
+            place(9, 7) = 1; score(0, 4) = 11; goods(0, 1) = 0; player(0, 5) = 255; owner(0) = 0; owner(7) = 0;
+            reason(9, 0) = 5; reason(9, 7) = 5""");
     }
 
     private static void placeEndsRounds() {

@@ -160,6 +160,19 @@ public final class StateTest {
             possible() = 26; option(6) = 901; option(12) = 907; option(13) = 1000; option(14) = 1101; option(18) = 1105;
             place(9, 4) = 1; place(9, 2) = throws IllegalStateException; place(4, 0) = 0;
             option(6) = 700; reason(9, 5) = 0; place(9, 5) = 1; reason(9, 7) = 2""");
+        Script.run("20 possible with everything that there is", """
+            newGame(2, 12) = 0;
+            place(0, 0) = 1; place(4, 0) = 0; place(1, 0) = 1; place(4, 0) = 0;
+            place(0, 0) = 1; place(4, 0) = 0; place(3, 0) = 1; place(4, 0) = 0;
+            place(6, 0) = 1; place(4, 0) = 0; place(0, 0) = 1; place(4, 0) = 0;
+            place(5, 0) = 1; place(4, 0) = 0; place(4, 0) = 1; place(0, 0) = 0;
+            place(1, 0) = 1; place(4, 0) = 0; place(10, 0) = 1; place(4, 0) = 0;
+            place(2, 0) = 1; place(4, 0) = 0; place(3, 0) = 1; place(4, 0) = 0;
+            place(2, 0) = 1; place(4, 0) = 0; place(4, 0) = 1; place(0, 0) = 0;
+            goods(0, 0) = 5; goods(0, 1) = 9; goods(0, 2) = 3; goods(0, 3) = 5; goods(0, 4) = 2; player(0, 3) = 3;
+            possible() = 40; option(6) = 600; option(7) = 700; option(8) = 801; option(10) = 803; option(11) = 900;
+            option(18) = 907; option(19) = 1000; option(20) = 1101; option(24) = 1105; option(39) = 1123;
+            option(40) = throws IndexOutOfBoundsException""");
         Script.run("20 possible when the game is over", GameTest.TO_THE_END + """
             possible() = 0; option(0) = throws IndexOutOfBoundsException""");
     }
