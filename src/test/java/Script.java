@@ -1,6 +1,10 @@
 import java.lang.reflect.InvocationTargetException;
 import java.lang.reflect.Method;
+import java.util.ArrayList;
 import java.util.Arrays;
+import java.util.HashMap;
+import java.util.List;
+import java.util.Map;
 
 /**
  * Runs calls that are written as in the document's examples: "place(0, 0) = 1; place(12, 0) = throws
@@ -9,35 +13,66 @@ import java.util.Arrays;
  * gave the time before.
  */
 final class Script {
+    /** What the document promises for one object; what later calls answer is free. */
+    static final int MOST_CALLS = 512;
+
     private static int wrong = 0;
     private static int calls = 0;
 
-    private Script() {
+    private final String name;
+    private final VillageBoard board = new VillageBoard();
+    private final Map<String, String> earlier = new HashMap<>();
+    private int made = 0;
+
+    private Script(String name) {
+        this.name = name;
     }
 
     static void run(String name, String text) {
-        VillageBoard board = new VillageBoard();
-        java.util.Map<String, String> earlier = new java.util.HashMap<>();
-        String plain = text.replaceAll("#[^\n]*", " ");
-        for (String part : plain.split(";")) {
-            String line = part.trim().replaceAll("\\s+", " ");
-            if (!line.isEmpty()) {
-                step(name, board, line, earlier);
-            }
+        Script script = new Script(name);
+        for (String line : steps(text)) {
+            script.step(line);
+        }
+        if (script.made > MOST_CALLS) {
+            throw new IllegalArgumentException(name + " makes " + script.made + " calls");
         }
     }
 
-    private static void step(String name, VillageBoard board, String line, java.util.Map<String, String> earlier) {
+    /** Makes the calls of a script on a new object, without a look at the answers. */
+    static VillageBoard replay(String text) {
+        VillageBoard board = new VillageBoard();
+        for (String line : steps(text)) {
+            answer(board, callOf(line));
+        }
+        return board;
+    }
+
+    static List<String> steps(String text) {
+        List<String> found = new ArrayList<>();
+        for (String part : text.replaceAll("#[^\n]*", " ").split(";")) {
+            String line = part.trim().replaceAll("\\s+", " ");
+            if (!line.isEmpty()) {
+                found.add(line);
+            }
+        }
+        return found;
+    }
+
+    private static String callOf(String line) {
         int equals = line.indexOf('=');
         if (equals < 0) {
             throw new IllegalArgumentException("no answer in: " + line);
         }
-        String call = line.substring(0, equals).trim().replace(" ", "");
-        String due = line.substring(equals + 1).trim().replace("NONE", "-1");
+        return line.substring(0, equals).trim().replace(" ", "");
+    }
+
+    private void step(String line) {
+        String call = callOf(line);
+        String due = line.substring(line.indexOf('=') + 1).trim().replace("NONE", "-1");
         if (due.equals("same")) {
             due = earlier.get(call);
         }
-        String got = answer(board, call);
+        String got = due.startsWith("throws") ? refusal(call) : answer(call);
         earlier.put(call, got);
         calls++;
         if (!due.equals("any") && !due.equals(got)) {
@@ -46,12 +81,25 @@ final class Script {
         }
     }
 
-    private static String answer(VillageBoard board, String call) {
-        int open = call.indexOf('(');
-        String inside = call.substring(open + 1, call.length() - 1).replace("NONE", "-1");
+    private String answer(String call) {
+        made++;
+        return answer(board, call);
+    }
+
+    private String refusal(String call) {
+        String before = answer("digest()");
+        String got = answer(call);
+        check(name + ": " + call + ", which throws, changes nothing", answer("digest()").equals(before));
+        return got;
+    }
+
+    static String answer(Object board, String call) {
+        String plain = call.replace(" ", "");
+        int open = plain.indexOf('(');
+        String inside = plain.substring(open + 1, plain.length() - 1).replace("NONE", "-1");
         int[] arguments = inside.isEmpty() ? new int[0]
                 : Arrays.stream(inside.split(",")).mapToInt(Integer::parseInt).toArray();
-        return answer(board, call.substring(0, open), arguments);
+        return answer(board, plain.substring(0, open), arguments);
     }
 
     /** The answer as a text, or "throws" and the name of the exception. */
@@ -75,6 +123,10 @@ final class Script {
             wrong++;
             System.out.println(name + " does not hold");
         }
+    }
+
+    static int wrong() {
+        return wrong;
     }
 
     static void end() {
