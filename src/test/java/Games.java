@@ -99,6 +99,21 @@ final class Games {
     /** Two players in round 2: player 0 has the bunkhouse, and 2 food. */
     static final String BUNKHOUSE = "place(0, 0) = 1; place(4, 0) = 0; place(9, 4) = 1; place(4, 0) = 0;\n";
 
+    /**
+     * Two players in round 8 of 12: player 0 has 5 wood, 9 clay, 3 grain, 5 sheep, 2 food, two members
+     * and three rooms, so that each placement that there is is possible.
+     */
+    static final String EVERYTHING_POSSIBLE = """
+        newGame(2, 12) = 0;
+        place(0, 0) = 1; place(4, 0) = 0; place(1, 0) = 1; place(4, 0) = 0;
+        place(0, 0) = 1; place(4, 0) = 0; place(3, 0) = 1; place(4, 0) = 0;
+        place(6, 0) = 1; place(4, 0) = 0; place(0, 0) = 1; place(4, 0) = 0;
+        place(5, 0) = 1; place(4, 0) = 0; place(4, 0) = 1; place(0, 0) = 0;
+        place(1, 0) = 1; place(4, 0) = 0; place(10, 0) = 1; place(4, 0) = 0;
+        place(2, 0) = 1; place(4, 0) = 0; place(3, 0) = 1; place(4, 0) = 0;
+        place(2, 0) = 1; place(4, 0) = 0; place(4, 0) = 1; place(0, 0) = 0;
+        """;
+
     private Games() {
     }
 
