@@ -115,6 +115,9 @@ public final class ModelTest {
         String due = Script.answer(model, method, arguments);
         String got = Script.answer(board, method, arguments);
         log.add(method + java.util.Arrays.toString(arguments) + " = " + got);
+        if (log.size() > Script.MOST_CALLS) {
+            throw new IllegalStateException("too many calls on one object");
+        }
         if (!due.equals(got)) {
             failed = true;
             System.out.println(String.join("\n", log) + "\n  but the model answers " + due);

@@ -80,7 +80,8 @@ final class UndoSentences {
         checkDigest("a skip ended the game", Games.stuckInRoundThree(3) + "skip() = NONE", 4, 3);
     }
 
-    private static void checkDigest(String situation, String script, int states, int rounds) {
+    /** The number of states and that of rounds cannot be asked for, so the caller tells them. */
+    static void checkDigest(String situation, String script, int states, int rounds) {
         Script.run("Promise 27: digest [" + situation + "]", script);
         List<Integer> values = valuesOf(Script.replay(script), states, rounds);
         BigInteger h = hash(18482, values);

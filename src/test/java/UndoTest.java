@@ -32,70 +32,11 @@ public final class UndoTest {
     }
 
     private static void digest() {
-        VillageBoard board = new VillageBoard();
-        compare("27 digest of a new object", board, 0, 6);
-        board.newGame(3, 5);
-        compare("27 digest of a new game", board, 1, 5);
-        board.place(0, 0);
-        board.place(10, 0);
-        compare("27 digest after placements", board, 3, 5);
-        board.play(2, 10);
-        board.play(2, 10);
-        compare("27 digest after play", board, 4, 5);
-        board.undo();
-        compare("27 digest after undo", board, 3, 5);
-        board.play(1, 10);
-        board.play(1, 10);
-        board.play(1, 10);
-        compare("27 digest after the end", board, 4, 5);
-        board.newGame(4, 12);
-        for (int i = 0; i < 5; i++) {
-            board.play(1, 9);
-            compare("27 digest with many moves", board, 4, 12);
-        }
-        Script.check("27 digest changes nothing", board.digest() == board.digest());
+        UndoSentences.checkDigest("play with depth 2", "newGame(3, 5) = 0; place(0, 0) = 1; place(10, 0) = 2; play(2, 10) = 10", 4, 5);
+        UndoSentences.checkDigest("undo of play", "newGame(3, 5) = 0; place(0, 0) = 1; place(10, 0) = 2; play(2, 10) = 10; undo() = 3", 3, 5);
+        UndoSentences.checkDigest("play to the end", "newGame(3, 2) = 0; play(1, 10) = any; play(1, 10) = any; play(1, 10) = 0", 4, 2);
+        UndoSentences.checkDigest("many moves of four players", "newGame(4, 12) = 0;" + "play(1, 9) = 9;".repeat(5), 4, 12);
         // The value that the fourth of the shared runs gives.
         Script.run("27 digest of a new object", "place(0, 0) = 1; undo() = 0; digest() = 4320237666021021856");
-    }
-
-    private static void compare(String name, VillageBoard board, int states, int rounds) {
-        Script.check(name, board.digest() == recomputed(board, states, rounds));
-    }
-
-    private static long recomputed(VillageBoard board, int states, int rounds) {
-        long h = hash(18482, states, board.players(), board.round(), rounds, board.inTurn(), board.startPlayer());
-        for (int p = 0; p < board.players(); p++) {
-            for (int good = 0; good <= 4; good++) {
-                h = hash(h, board.goods(p, good));
-            }
-            for (int what = 0; what <= 5; what++) {
-                h = hash(h, board.player(p, what));
-            }
-            h = hash(h, board.need(p), board.missing(p));
-            for (int part = 0; part <= 6; part++) {
-                h = hash(h, board.score(p, part));
-            }
-            h = hash(h, board.rank(p));
-        }
-        for (int space = 0; space <= 11; space++) {
-            for (int what = 0; what <= 3; what++) {
-                h = hash(h, board.space(space, what));
-            }
-        }
-        h = hash(h, board.possible(), board.bestScore(1), board.bestPlacement(1, 0), board.moves());
-        for (int index = 0; index < board.moves(); index++) {
-            for (int what = 0; what <= 3; what++) {
-                h = hash(h, board.move(index, what));
-            }
-        }
-        return h;
-    }
-
-    private static long hash(long h, int... values) {
-        long mixed = h;
-        for (int v : values) {
-            mixed = 31 * mixed + v;
-        }
-        return mixed;
     }
 }
