@@ -1,24 +1,5 @@
 /** Promises 1 to 6: a new object, newGame, reason, place, skip and play. */
 public final class GameTest {
-    /**
-     * Four players; player 0 builds the bunkhouse, grows in round 2, begs for 1 food, and is left in
-     * round 3 with a third worker and nothing to do, since all that is free of charge is occupied.
-     */
-    static final String TO_A_SKIP = """
-        newGame(4, 4) = 0;
-        place(0, 0) = 1; place(4, 0) = 2; place(4, 0) = 3; place(3, 0) = 0;
-        place(9, 4) = 1; place(5, 0) = 2; place(2, 0) = 3; place(1, 0) = 0; round() = 2;
-        place(7, 0) = 1; place(3, 0) = 2; place(5, 0) = 3; place(4, 0) = 0;
-        place(4, 0) = 1; place(2, 0) = 2; place(0, 0) = 3; place(1, 0) = 0; round() = 3;
-        place(3, 0) = 1; place(0, 0) = 2; place(1, 0) = 3; place(2, 0) = 0;
-        place(5, 0) = 1; place(10, 0) = 2; place(4, 0) = 3; place(4, 0) = 0;
-        """;
-
-    /** A game of one round that is over. */
-    static final String TO_THE_END = """
-        newGame(2, 1) = 0; place(0, 0) = 1; place(4, 0) = 0; place(2, 0) = 1; place(4, 0) = NONE;
-        """;
-
     public static void main(String[] args) {
         aNewObject();
         newGame();
@@ -57,7 +38,7 @@ public final class GameTest {
             place(0, 0) = 1; place(1, 0) = 2; place(2, 0) = 0; place(3, 0) = 1; place(4, 0) = 2; place(5, 0) = NONE;
             round() = 2; newGame(2, 12) = 1; newGame(4, 1) = 0; players() = 4;
             goods(0, 4) = 2; goods(1, 4) = 3; goods(2, 4) = 3; goods(3, 4) = 3""");
-        Script.run("2 newGame leaves nothing of the game before", GameTest.TO_A_SKIP + """
+        Script.run("2 newGame leaves nothing of the game before", Games.stuckInRoundThree(4) + """
             startPlayer() = 1; newGame(4, 6) = 2; startPlayer() = 0; inTurn() = 0; round() = 1; moves() = 0;
             player(0, 0) = 2; player(0, 1) = 0; player(0, 2) = 2; player(0, 3) = 2; player(0, 4) = 0; player(0, 5) = 0;
             owner(4) = NONE; goods(0, 0) = 0; goods(0, 3) = 0; goods(0, 4) = 2; goods(1, 0) = 0; goods(1, 2) = 0;
@@ -102,7 +83,7 @@ public final class GameTest {
         Script.run("3 reason of a building that a player has", """
             place(0, 0) = 1; place(1, 0) = 0; place(9, 6) = 1; reason(9, 6) = 5; reason(9, 7) = 0; reason(9, 5) = 0;
             reason(9, 0) = 5; place(9, 7) = 0; reason(9, 7) = 5; reason(9, 6) = 5; reason(9, 8) = 4; reason(9, 2) = 0""");
-        Script.run("3 reason when the game is over", GameTest.TO_THE_END + """
+        Script.run("3 reason when the game is over", Games.OVER + """
             reason(0, 0) = 1; reason(1, 0) = 1; reason(7, 5) = 1; reason(9, 99) = 1; reason(4, 0) = 1;
             reason(12, 0) = throws IndexOutOfBoundsException; reason(-1, 0) = throws IndexOutOfBoundsException""");
         Script.run("3 reason throws", """
@@ -276,7 +257,7 @@ public final class GameTest {
             place(11, 24) = throws IllegalStateException; place(11, 2147483647) = throws IllegalStateException;
             digest() = same; undo() = throws IllegalStateException;
             place(0, 0) = 1; place(0, 0) = throws IllegalStateException; moves() = 1; inTurn() = 1""");
-        Script.run("4 place throws when the game is over", GameTest.TO_THE_END + """
+        Script.run("4 place throws when the game is over", Games.OVER + """
             digest() = any; place(1, 0) = throws IllegalStateException; place(12, 0) = throws IndexOutOfBoundsException;
             digest() = same""");
         Script.run("4 place is undoable", """
@@ -288,19 +269,19 @@ public final class GameTest {
     }
 
     private static void skip() {
-        Script.run("5 skip", GameTest.TO_A_SKIP + """
+        Script.run("5 skip", Games.stuckInRoundThree(4) + """
             inTurn() = 0; player(0, 2) = 1; possible() = 0; bestScore(1) = NONE; bestPlacement(1, 0) = NONE;
             option(0) = throws IndexOutOfBoundsException; round() = 3; digest() = any;
             skip() = 1; round() = 4; moves() = 25; move(24, 0) = 3; move(24, 1) = 0; move(24, 2) = NONE; move(24, 3) = 0;
             skip() = throws IllegalStateException; undo() = 3; round() = 3; moves() = 24; player(0, 2) = 1; inTurn() = 0""");
         Script.run("5 skip throws", """
             digest() = any; skip() = throws IllegalStateException; digest() = same; undo() = throws IllegalStateException""");
-        Script.run("5 skip throws when the game is over", GameTest.TO_THE_END + """
+        Script.run("5 skip throws when the game is over", Games.OVER + """
             digest() = any; skip() = throws IllegalStateException; digest() = same""");
     }
 
     private static void play() {
-        Script.run("6 play skips", GameTest.TO_A_SKIP + """
+        Script.run("6 play skips", Games.stuckInRoundThree(4) + """
             play(1, 1) = 1; round() = 4; inTurn() = 1; move(24, 2) = NONE; undo() = 3; round() = 3; play(2, 2) = 2;
             moves() = 26; move(24, 2) = NONE; move(25, 1) = 1""");
         Script.run("6 play of depth 1", """

@@ -34,11 +34,11 @@ public final class SearchTest {
             bestPlacement(2, 1) = 500; place(7, 0) = 1; place(5, 0) = 0;
             # 12 points with the newcomer; 5 food are needed, and there are 4 with the lake or with labour
             bestScore(1) = 9; bestPlacement(1, 0) = 300""");
-        Script.run("22 nothing is best when the game is over", GameTest.TO_THE_END + """
+        Script.run("22 nothing is best when the game is over", Games.OVER + """
             bestScore(1) = NONE; bestScore(2) = NONE; bestScore(3) = NONE; bestPlacement(1, 0) = NONE;
             bestPlacement(3, 2) = NONE; bestScore(4) = throws IllegalArgumentException;
             bestPlacement(3, 3) = throws IllegalArgumentException""");
-        Script.run("22 nothing is best without a possible placement", GameTest.TO_A_SKIP + """
+        Script.run("22 nothing is best without a possible placement", Games.stuckInRoundThree(4) + """
             bestScore(1) = NONE; bestScore(2) = NONE; bestScore(3) = NONE; bestPlacement(1, 0) = NONE; bestPlacement(2, 1) = NONE""");
         Script.run("22 bestScore throws", """
             bestScore(0) = throws IllegalArgumentException; bestScore(4) = throws IllegalArgumentException;

@@ -15,7 +15,7 @@ public final class StateTest {
         Script.run("7 players", "players() = 2; newGame(3, 1) = 0; players() = 3; newGame(4, 1) = 0; players() = 4");
         Script.run("8 round", """
             round() = 1; place(0, 0) = 1; place(1, 0) = 0; place(2, 0) = 1; round() = 1; place(3, 0) = 0; round() = 2""");
-        Script.run("8 round of a game that is over", GameTest.TO_THE_END + "round() = 2");
+        Script.run("8 round of a game that is over", Games.OVER + "round() = 2");
         Script.run("8 round of a game of twelve rounds that is over", """
             newGame(2, 12) = 0; play(1, 10) = 10; play(1, 10) = 10; play(1, 10) = 10; play(1, 10) = any; play(1, 10) = any;
             play(1, 10) = any; play(1, 10) = any; play(1, 10) = any; play(1, 10) = any; play(1, 10) = any; play(1, 10) = any;
@@ -23,7 +23,7 @@ public final class StateTest {
         Script.run("9 inTurn", """
             newGame(3, 1) = 0; inTurn() = 0; place(0, 0) = 1; inTurn() = 1; place(1, 0) = 2; inTurn() = 2;
             place(2, 0) = 0; inTurn() = 0""");
-        Script.run("9 inTurn of a game that is over", GameTest.TO_THE_END + "inTurn() = NONE");
+        Script.run("9 inTurn of a game that is over", Games.OVER + "inTurn() = NONE");
         Script.run("10 startPlayer", """
             startPlayer() = 0; place(0, 0) = 1; startPlayer() = 0; place(10, 0) = 0; startPlayer() = 1""");
         Script.run("10 startPlayer stays when the game is over", """
@@ -40,7 +40,7 @@ public final class StateTest {
             goods(2, 5) = throws IndexOutOfBoundsException; goods(-2147483648, -1) = throws IndexOutOfBoundsException;
             newGame(3, 1) = 0; goods(2, 4) = 3; goods(3, 4) = throws IndexOutOfBoundsException;
             newGame(4, 1) = 0; goods(3, 4) = 3; goods(4, 4) = throws IndexOutOfBoundsException""");
-        Script.run("12 player", GameTest.TO_A_SKIP + """
+        Script.run("12 player", Games.stuckInRoundThree(4) + """
             player(0, 0) = 3; player(0, 1) = 0; player(0, 2) = 1; player(0, 3) = 2; player(0, 4) = 1; player(0, 5) = 16;
             player(1, 0) = 2; player(1, 2) = 0; player(1, 4) = 0; player(1, 5) = 0; player(3, 0) = 2""");
         Script.run("12 player throws", """
@@ -119,7 +119,7 @@ public final class StateTest {
             place(0, 0) = 1; place(1, 0) = 0; place(9, 6) = 1; score(0, 4) = 1; place(9, 5) = 0; score(1, 4) = 2;
             place(9, 2) = 1; score(0, 4) = 2; place(1, 0) = 0; place(0, 0) = 1; place(9, 7) = 0; score(1, 4) = 3;
             score(0, 0) = 6; score(0, 1) = 2""");
-        Script.run("18 score of begging tokens and of a family of three", GameTest.TO_A_SKIP + """
+        Script.run("18 score of begging tokens and of a family of three", Games.stuckInRoundThree(4) + """
             score(0, 0) = 9; score(0, 1) = 2; score(0, 2) = 1; score(0, 3) = 0; score(0, 4) = 1; score(0, 5) = -3;
             score(0, 6) = 10""");
         Script.run("18 score throws", """
@@ -173,7 +173,7 @@ public final class StateTest {
             possible() = 40; option(6) = 600; option(7) = 700; option(8) = 801; option(10) = 803; option(11) = 900;
             option(18) = 907; option(19) = 1000; option(20) = 1101; option(24) = 1105; option(39) = 1123;
             option(40) = throws IndexOutOfBoundsException""");
-        Script.run("20 possible when the game is over", GameTest.TO_THE_END + """
+        Script.run("20 possible when the game is over", Games.OVER + """
             possible() = 0; option(0) = throws IndexOutOfBoundsException""");
     }
 }

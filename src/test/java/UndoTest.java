@@ -18,12 +18,12 @@ public final class UndoTest {
         Script.run("26 undo and go on", """
             place(0, 0) = 1; place(1, 0) = 0; undo() = 1; place(2, 0) = 0; place(3, 0) = 1; undo() = 2; undo() = 1; undo() = 0;
             moves() = 0; place(5, 0) = 1; undo() = 0; goods(0, 3) = 0""");
-        Script.run("26 undo of each undoable call", GameTest.TO_A_SKIP + """
+        Script.run("26 undo of each undoable call", Games.stuckInRoundThree(4) + """
             round() = 3; newGame(2, 2) = 2; undo() = 3; round() = 3; players() = 4; moves() = 24; startPlayer() = 1;
             goods(0, 3) = 1; goods(0, 4) = 1; player(0, 4) = 1; player(0, 5) = 16; owner(4) = 0; space(4, 1) = 2;
             skip() = 1; play(1, 3) = 3; undo() = 3; moves() = 25; undo() = 2; moves() = 24; undo() = 1; undo() = 0;
             undo() = throws IllegalStateException""");
-        Script.run("26 play that changes nothing is undoable", GameTest.TO_THE_END + """
+        Script.run("26 play that changes nothing is undoable", Games.OVER + """
             play(1, 1) = 0; play(1, 1) = 0; play(1, 1) = 0; play(1, 1) = 0; play(1, 1) = 0; undo() = 3; undo() = 2; undo() = 1;
             undo() = 0; inTurn() = NONE; undo() = throws IllegalStateException""");
         Script.run("26 undo of the end of a game", """
